@@ -21,8 +21,8 @@ public final class ColdGrid {
     private final int[] row = new int[MOST_STATES];
     private final int[] rowAfter = new int[MOST_STATES];
 
+    // All parts begin as the document asks by their own fields.
     public ColdGrid() {
-        weights.startAnew(FIRST_LETTERS);
     }
 
     public int letters(int n) {
@@ -136,7 +136,7 @@ public final class ColdGrid {
         int settled = 0;
         int ones = 0;
         boolean again = true;
-        // Each going through but the last fixes a letter, so as many as there are letters suffice.
+        // Each going through but the last fixes a letter, and one that fixes none changes nothing.
         for (int round = 0; again && round < MOST_LETTERS; round++) {
             again = false;
             for (int i = 0; i < weights.size(); i++) {
@@ -561,10 +561,6 @@ public final class ColdGrid {
             chains[letter] = cells;
         }
 
-        int chainOf(int letter) {
-            return chains[letter];
-        }
-
         void forgetChains() {
             for (int i = 0; i < chains.length; i++) {
                 chains[i] = 0;
@@ -759,6 +755,7 @@ public final class ColdGrid {
             }
         }
 
+        // Chains that stand have a least cell and their links; an index is looked at all the same.
         private void addOwn(int cell, int w) {
             if (isWithin(cell, 0, Grid.CELLS - 1)) {
                 own[cell] = w;

@@ -239,6 +239,9 @@ final class PromisesTest {
         far.weigh(0, 1, -39);
         // Both: 4p - 59, so p 15; one: p - 30, so p 31.
         Due.is("11: the greater of two", far.pull(), 31);
+        ColdGrid none = of(1, 60);
+        none.law(1, 1);
+        Due.is("11: against the state of none", none.pull(), 61);
     }
 
     // Laws that leave two states of letters 0 to 5, of which the sixth law misses the far better one by one alone.
@@ -296,6 +299,13 @@ final class PromisesTest {
         Due.is("12: above 0", z.fixed(0), 0);
         z.law(1, 0);
         Due.is("12: laws are not looked at", z.fixed(0), 0);
+        ColdGrid row = of(8, 1, 1, 1, 1, 1, 1, 1, -1);
+        for (int i = 0; i < 7; i++) {
+            row.weigh(i, i + 1, -2);
+        }
+        // Letter 7 first, and each other one going later than the one above it.
+        Due.is("12: eight goings", row.fixed(0), 255);
+        Due.is("12: eight goings", row.fixed(1), 255);
         for (int way : new int[] {-1, 2, LEAST, MOST}) {
             Due.is("12: fixed(" + way + ")", x.fixed(way), ColdGrid.BAD);
         }
