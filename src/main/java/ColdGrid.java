@@ -19,7 +19,7 @@ public final class ColdGrid {
     private final CellEnergy cellEnergy = new CellEnergy();
     // Made once and filled anew by each call that goes through all states: what a run makes is counted.
     private final int[] row = new int[MOST_STATES];
-    private final int[] rowAfter = new int[MOST_STATES];
+    private final int[] otherRow = new int[MOST_STATES];
 
     // All parts begin as the document asks by their own fields.
     public ColdGrid() {
@@ -83,33 +83,15 @@ public final class ColdGrid {
         if (!isPull(p)) {
             return BAD;
         }
-        fillWeighed(p);
-        int least = leastOfRow();
-        int found = 0;
-        for (int state = 0; state < weights.states(); state++) {
-            if (row[state] == least) {
-                found++;
-            }
-        }
-        return found;
+        return listBest(p);
     }
 
     public int bestAt(int p, int k) {
-        if (!isPull(p) || k < 0) {
+        if (!isPull(p)) {
             return BAD;
         }
-        fillWeighed(p);
-        int least = leastOfRow();
-        int found = 0;
-        for (int state = 0; state < weights.states(); state++) {
-            if (row[state] == least) {
-                if (found == k) {
-                    return state;
-                }
-                found++;
-            }
-        }
-        return BAD;
+        int found = listBest(p);
+        return isWithin(k, 0, found - 1) ? otherRow[k] : BAD;
     }
 
     public int pull() {
@@ -233,10 +215,10 @@ public final class ColdGrid {
         }
         weights.fillEnergies(row);
         weights.cutTo(s);
-        weights.fillEnergies(rowAfter);
+        weights.fillEnergies(otherRow);
         int loss = 0;
         for (int state = 0; state < weights.states(); state++) {
-            loss = Math.max(loss, Math.abs(rowAfter[state] - row[state]));
+            loss = Math.max(loss, Math.abs(otherRow[state] - row[state]));
         }
         return loss;
     }
@@ -312,6 +294,20 @@ public final class ColdGrid {
         for (int state = 0; state < weights.states(); state++) {
             row[state] += p * laws.missedBy(state);
         }
+    }
+
+    // Leaves the best states by p in the other row, as numbers rise, and tells how many they are.
+    private int listBest(int p) {
+        fillWeighed(p);
+        int least = leastOfRow();
+        int found = 0;
+        for (int state = 0; state < weights.states(); state++) {
+            if (row[state] == least) {
+                otherRow[found] = state;
+                found++;
+            }
+        }
+        return found;
     }
 
     private int leastOfRow() {
