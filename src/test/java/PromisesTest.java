@@ -36,12 +36,7 @@ final class PromisesTest {
     }
 
     private static ColdGrid of(int n, int... own) {
-        ColdGrid x = new ColdGrid();
-        x.letters(n);
-        for (int i = 0; i < own.length; i++) {
-            x.weigh(i, i, own[i]);
-        }
-        return x;
+        return Pasts.of(n, own);
     }
 
     private static void aNewObject() {
@@ -142,7 +137,8 @@ final class PromisesTest {
 
     private static void law() {
         ColdGrid x = new ColdGrid();
-        int[][] bad = {{0, 0}, {16, 0}, {-1, 0}, {LEAST, 0}, {MOST, 0}, {5, 3}, {5, -1}, {15, 5}, {5, MOST}, {5, LEAST}};
+        int[][] bad = {{0, 0}, {16, 0}, {-1, 0}, {LEAST, 0}, {MOST, 0}, {5, 3}, {5, -1}, {15, 5}, {5, MOST},
+            {5, LEAST}};
         for (int[] b : bad) {
             Due.is("6: law(" + b[0] + ", " + b[1] + ")", x.law(b[0], b[1]), ColdGrid.BAD);
         }
@@ -571,8 +567,8 @@ final class PromisesTest {
 
     // One letter of weight 1: by heat 1 it stays 0 or not by one bit of z, and by heat 0, from move 11 on, it stays 0.
     private static void walkThatCools() {
-        ColdGrid x = of(1, 1);
         for (int seed : new int[] {0, 1, -1, 77, LEAST, MOST}) {
+            ColdGrid x = of(1, 1);
             long z = seed;
             int here = 0;
             for (int move = 1; move <= 200; move++) {

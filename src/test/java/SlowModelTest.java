@@ -9,8 +9,9 @@ final class SlowModelTest {
 
     private final Random random;
     private final String name;
-    private ColdGrid grid = new ColdGrid();
-    private SlowModel model = new SlowModel();
+    private final ColdGrid grid = new ColdGrid();
+    private final SlowModel model = new SlowModel();
+    private int calls = 0;
 
     private SlowModelTest(long seed) {
         // Seeds side by side begin alike, so they are spread out first.
@@ -19,12 +20,29 @@ final class SlowModelTest {
     }
 
     public static void main(String[] args) {
-        for (int seed = 0; seed < 250; seed++) {
-            new SlowModelTest(seed).runOfWeights();
-            new SlowModelTest(seed).runOfLayings();
-            new SlowModelTest(seed).runOfAnyCalls();
+        for (int seed = 0; seed < 600; seed++) {
+            for (int kind = 0; kind < 3; kind++) {
+                new SlowModelTest(seed).run(kind);
+            }
         }
         Due.end("SlowModelTest");
+    }
+
+    private void due(String what, int got, int want) {
+        calls++;
+        Due.is(name + what, got, want);
+    }
+
+    private void run(int kind) {
+        if (kind == 0) {
+            runOfWeights();
+        } else if (kind == 1) {
+            runOfLayings();
+        } else {
+            runOfAnyCalls();
+        }
+        // What an object answers beyond its 512th call is free, so no run may depend on it.
+        Due.is(name + "calls beyond 512", Math.max(calls - 512, 0), 0);
     }
 
     private int upTo(int most) {
@@ -45,72 +63,77 @@ final class SlowModelTest {
     }
 
     private void letters(int n) {
-        Due.is(name + "letters(" + n + ")", grid.letters(n), model.letters(n));
+        due("letters(" + n + ")", grid.letters(n), model.letters(n));
     }
 
     private void weigh(int i, int j, int w) {
-        Due.is(name + "weigh(" + i + ", " + j + ", " + w + ")", grid.weigh(i, j, w), model.weigh(i, j, w));
+        due("weigh(" + i + ", " + j + ", " + w + ")", grid.weigh(i, j, w), model.weigh(i, j, w));
     }
 
     private void energy(int state) {
-        Due.is(name + "energy(" + state + ")", grid.energy(state), model.energy(state));
+        due("energy(" + state + ")", grid.energy(state), model.energy(state));
     }
 
     private void law(int set, int k) {
-        Due.is(name + "law(" + set + ", " + k + ")", grid.law(set, k), model.law(set, k));
+        due("law(" + set + ", " + k + ")", grid.law(set, k), model.law(set, k));
     }
 
     private void bestStates(int p, int k) {
-        Due.is(name + "best(" + p + ")", grid.best(p), model.best(p));
-        Due.is(name + "many(" + p + ")", grid.many(p), model.many(p));
-        Due.is(name + "bestAt(" + p + ", " + k + ")", grid.bestAt(p, k), model.bestAt(p, k));
+        due("best(" + p + ")", grid.best(p), model.best(p));
+        due("many(" + p + ")", grid.many(p), model.many(p));
+        due("bestAt(" + p + ", " + k + ")", grid.bestAt(p, k), model.bestAt(p, k));
     }
 
     private void kill(int cell, boolean dead) {
-        Due.is(name + "kill(" + cell + ", " + dead + ")", grid.kill(cell, dead), model.kill(cell, dead));
+        due("kill(" + cell + ", " + dead + ")", grid.kill(cell, dead), model.kill(cell, dead));
     }
 
     private void chain(int letter, int cells) {
-        Due.is(name + "chain(" + letter + ", " + cells + ")", grid.chain(letter, cells), model.chain(letter, cells));
+        due("chain(" + letter + ", " + cells + ")", grid.chain(letter, cells), model.chain(letter, cells));
     }
 
     private void link(int i, int j, int way) {
-        Due.is(name + "link(" + i + ", " + j + ", " + way + ")", grid.link(i, j, way), model.link(i, j, way));
+        due("link(" + i + ", " + j + ", " + way + ")", grid.link(i, j, way), model.link(i, j, way));
     }
 
     private void readBack(int cells) {
-        Due.is(name + "readBack(" + cells + ")", grid.readBack(cells), model.readBack(cells));
+        due("readBack(" + cells + ")", grid.readBack(cells), model.readBack(cells));
     }
 
     private void turn(int set) {
-        Due.is(name + "turn(" + set + ")", grid.turn(set), model.turn(set));
+        due("turn(" + set + ")", grid.turn(set), model.turn(set));
     }
 
     private void cut(int s) {
-        Due.is(name + "cut(" + s + ")", grid.cut(s), model.cut(s));
+        due("cut(" + s + ")", grid.cut(s), model.cut(s));
     }
 
     private void walk(int state, int seed, int heat, int moves, int way) {
-        Due.is(name + "walk(" + state + ", " + seed + ", " + heat + ", " + moves + ", " + way + ")",
+        due("walk(" + state + ", " + seed + ", " + heat + ", " + moves + ", " + way + ")",
             grid.walk(state, seed, heat, moves, way), model.walk(state, seed, heat, moves, way));
     }
 
-    private void allThatIsHeld() {
-        for (int what = -1; what <= 6; what++) {
-            Due.is(name + "count(" + what + ")", grid.count(what), model.count(what));
+    private void weight(int i, int j) {
+        due("weight(" + i + ", " + j + ")", grid.weight(i, j), model.weight(i, j));
+    }
+
+    // All is asked by many runs, a part of it by each.
+    private void partOfWhatIsHeld() {
+        for (int what = 0; what <= 5; what++) {
+            due("count(" + what + ")", grid.count(what), model.count(what));
         }
-        for (int i = -1; i <= 8; i++) {
-            for (int j = -1; j <= 8; j++) {
-                Due.is(name + "weight(" + i + ", " + j + ")", grid.weight(i, j), model.weight(i, j));
-            }
+        for (int k = 0; k < 10; k++) {
+            weight(upTo(9) - 1, upTo(9) - 1);
+            energy(aState());
         }
-        for (int state = -1; state <= 1 << model.n; state++) {
-            energy(state);
+        for (int k = 0; k < 6; k++) {
+            weight(upTo(model.n - 1), upTo(model.n - 1));
         }
-        Due.is(name + "fixed(0)", grid.fixed(0), model.fixed(0));
-        Due.is(name + "fixed(1)", grid.fixed(1), model.fixed(1));
-        Due.is(name + "floor()", grid.floor(), model.floor());
-        Due.is(name + "stands()", grid.stands(), model.stands());
+        energy((1 << model.n) - 1);
+        due("fixed(0)", grid.fixed(0), model.fixed(0));
+        due("fixed(1)", grid.fixed(1), model.fixed(1));
+        due("floor()", grid.floor(), model.floor());
+        due("stands()", grid.stands(), model.stands());
     }
 
     private void weighAll(int sparse) {
@@ -126,25 +149,25 @@ final class SlowModelTest {
     private void runOfWeights() {
         letters(1 + upTo(7));
         weighAll(1 + upTo(2));
-        allThatIsHeld();
+        partOfWhatIsHeld();
         tellLaws();
         for (int k = 0; k < 4; k++) {
             bestStates(upTo(12), upTo(3));
             bestStates(upTo(1000), upTo(1));
-            Due.is(name + "pull()", grid.pull(), model.pull());
-            Due.is(name + "unlaw()", grid.unlaw(), model.unlaw());
+            due("pull()", grid.pull(), model.pull());
+            due("unlaw()", grid.unlaw(), model.unlaw());
         }
         for (int k = 0; k < 6; k++) {
             walk(aState(), random.nextInt(), upTo(100), 1 + upTo(199), upTo(1));
         }
         for (int k = 0; k < 4; k++) {
             turn(aState());
-            allThatIsHeld();
+            partOfWhatIsHeld();
         }
         for (int k = 0; k < 3; k++) {
             cut(1 + upTo(19));
             turn(aState());
-            allThatIsHeld();
+            partOfWhatIsHeld();
         }
     }
 
@@ -231,25 +254,26 @@ final class SlowModelTest {
     }
 
     private void askLaying() {
-        Due.is(name + "stands()", grid.stands(), model.stands());
-        Due.is(name + "strong()", grid.strong(), model.strong());
-        for (int i = -1; i <= model.n; i++) {
-            for (int j = -1; j <= model.n; j++) {
-                link(i, j, 0);
-                link(i, j, 1);
-            }
+        due("stands()", grid.stands(), model.stands());
+        due("strong()", grid.strong(), model.strong());
+        for (int k = 0; k < 10; k++) {
+            int i = upTo(model.n - 1);
+            int j = upTo(model.n - 1);
+            link(i, j, 0);
+            link(i, j, 1);
         }
+        link(upTo(9) - 1, upTo(9) - 1, upTo(3) - 1);
         int union = 0;
         for (int i = 0; i < model.n; i++) {
             for (int c : model.chains.get(i)) {
                 union |= 1 << c;
             }
         }
-        for (int k = 0; k < 20; k++) {
+        for (int k = 0; k < 8; k++) {
             readBack(random.nextInt() & union);
         }
         readBack(1 << upTo(31));
-        Due.is(name + "count(4)", grid.count(4), model.count(4));
+        due("count(4)", grid.count(4), model.count(4));
     }
 
     private void spoilLaying() {
@@ -273,7 +297,7 @@ final class SlowModelTest {
         for (int call = 0; call < 200; call++) {
             anyCall(upTo(17));
         }
-        allThatIsHeld();
+        partOfWhatIsHeld();
     }
 
     private void anyCall(int which) {
@@ -303,7 +327,7 @@ final class SlowModelTest {
                 law(random.nextBoolean() ? a : aState(), upTo(4) - 1);
                 break;
             case 6:
-                Due.is(name + "unlaw()", grid.unlaw(), model.unlaw());
+                due("unlaw()", grid.unlaw(), model.unlaw());
                 break;
             case 7:
                 bestStates(a, b);
@@ -312,7 +336,7 @@ final class SlowModelTest {
                 bestStates(upTo(30), upTo(4) - 1);
                 break;
             case 9:
-                Due.is(name + "fixed(" + a + ")", grid.fixed(a), model.fixed(a));
+                due("fixed(" + a + ")", grid.fixed(a), model.fixed(a));
                 break;
             case 10:
                 kill(a, random.nextBoolean());
@@ -336,7 +360,7 @@ final class SlowModelTest {
                 walk(random.nextInt(3) == 0 ? a : aState(), odd(), upTo(104) - 2, upTo(204) - 1, upTo(3) - 1);
                 break;
             default:
-                Due.is(name + "weight(" + a + ", " + b + ")", grid.weight(a, b), model.weight(a, b));
+                weight(a, b);
                 break;
         }
     }
