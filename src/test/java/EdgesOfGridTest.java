@@ -29,7 +29,10 @@ final class EdgesOfGridTest {
         asLittle();
         eachTwoUnlike();
         ownAtTheLeastCell();
+        bothCellsOfALink();
+        strongOfEightLetters();
         strongOfFourteen();
+        strongOfWhatIsNow();
         strongThatDoesNotStand();
         mostCells();
         asManyCells();
@@ -366,6 +369,11 @@ final class EdgesOfGridTest {
             Due.is("pair " + d[0], x.strong(), d[1]);
         }
         Due.is("a chain without weights", laid(1, 3).strong(), 1);
+        for (int w : new int[] {-60, -1, 1, 60}) {
+            ColdGrid one = Pasts.of(1, w);
+            one.chain(0, 3);
+            Due.is("a chain of weight " + w, one.strong(), 1);
+        }
         Twins.unchanged(Pasts::rich, "strong()", ColdGrid::strong, Pasts.rich().strong());
     }
 
@@ -406,6 +414,77 @@ final class EdgesOfGridTest {
         Due.is("with a constant", y.strong(), 1);
     }
 
+    private static ColdGrid twoLaid(int pair, int first, int second) {
+        ColdGrid x = Pasts.of(2, -10, -20);
+        x.weigh(0, 1, pair);
+        x.chain(0, first);
+        x.chain(1, second);
+        return x;
+    }
+
+    private static void bothCellsOfALink() {
+        Due.of("18: of each PAIR its WEIGHT, if both CELLS of its LINK are 1");
+        Due.is("one below the other", twoLaid(30, 1 << 0 | 1 << 1, 1 << 6).strong(), 11);
+        Due.is("one above the other", twoLaid(30, 1 << 18 | 1 << 19, 1 << 14).strong(), 11);
+        Due.is("from the right", twoLaid(30, 1 << 6 | 1 << 7, 1 << 8).strong(), 11);
+        Due.is("from the left", twoLaid(30, 1 << 2 | 1 << 6 | 1 << 7, 1 << 5).strong(), 11);
+        Due.is("0 and 5, both of which bear weights", twoLaid(30, 1, 1 << 5 | 1 << 10).strong(), 1);
+        // Cell 7 bears neither: with it at 0 a state has the same energy, pair and all.
+        Due.is("pair of 1, beside the least cell", twoLaid(1, 1 << 6 | 1 << 7, 1 << 5).strong(), 1);
+        Due.is("pair of -1, beside the least cell", twoLaid(-1, 1 << 6 | 1 << 7, 1 << 5).strong(), 1);
+        ColdGrid between = Pasts.of(3, -10, -20, 0);
+        between.weigh(0, 1, 30);
+        between.chain(0, 1 << 0 | 1 << 1);
+        between.chain(1, 1 << 6);
+        between.chain(2, 1 << 2);
+        Due.is("a cell of a third between their numbers", between.strong(), 11);
+        ColdGrid apart = Pasts.of(3, -20, 0, -10);
+        apart.weigh(0, 2, 30);
+        apart.chain(0, 1 << 6);
+        apart.chain(1, 1 << 19);
+        apart.chain(2, 1 << 1 | 1 << 2);
+        Due.is("pairs without weight that are apart have none", apart.strong(), 1);
+    }
+
+    private static void strongOfEightLetters() {
+        Due.of("18: STRONG, of 8 LETTERS");
+        ColdGrid x = laid(8, 1, 2, 4, 8, 16, 32, 1 << 9, 1 << 7 | 1 << 8);
+        x.weigh(6, 6, -20);
+        x.weigh(7, 7, -10);
+        x.weigh(6, 7, 30);
+        // As of two: cell 7 bears the weight of letter 7, 8 and 9 are the link.
+        Due.is("the last two", x.strong(), 11);
+        for (int i = 0; i < 6; i++) {
+            x.weigh(i, i, -60);
+        }
+        Due.is("the others add the same to all", x.strong(), 11);
+    }
+
+    private static void strongOfWhatIsNow() {
+        Due.of("18: STRONG, by the WEIGHTS and CHAINS that are now");
+        ColdGrid x = twoLaid(30, 3, 4);
+        Due.is("own at 0, link of 1 and 2", x.strong(), 11);
+        x.chain(0, 1);
+        x.chain(1, 6);
+        Due.is("own and link at 1, nothing at 2", x.strong(), 1);
+        ColdGrid beside = laid(2, 3, 12);
+        beside.weigh(0, 1, -30);
+        Due.is("a link of 1 and 2", beside.strong(), 1);
+        beside.weigh(0, 1, 0);
+        Due.is("no link any more", beside.strong(), 1);
+        ColdGrid below = laid(2, 3, 3 << 6);
+        below.weigh(0, 1, -30);
+        Due.is("a link of 1 and 6", below.strong(), 1);
+        below.weigh(0, 1, 0);
+        Due.is("no link any more", below.strong(), 1);
+        ColdGrid moved = laid(1, 0x3fff);
+        Due.is("the first 14 cells", moved.strong(), 1);
+        moved.chain(0, 3 << 18);
+        Due.is("the last two", moved.strong(), 1);
+        moved.chain(0, 1 << 18);
+        Due.is("one", moved.strong(), 0);
+    }
+
     private static void strongOfFourteen() {
         Due.of("18: STRONG, of 14 CELLS");
         ColdGrid x = Pasts.of(2, -60, -60);
@@ -422,6 +501,11 @@ final class EdgesOfGridTest {
         Due.is("14 cells, the link apart from the least cell", x.strong(), 61);
         x.chain(1, 0b00001_11111_10000_00000);
         Due.is("15 cells", x.strong(), ColdGrid.NOT);
+        ColdGrid y = Pasts.of(2, 0, -60);
+        y.chain(0, 0x1fff);
+        y.chain(1, 0x2000);
+        // Only with the last of the 14 cells at 1 a broken state has -60.
+        Due.is("13 cells and one", y.strong(), 1);
     }
 
     private static void strongThatDoesNotStand() {
