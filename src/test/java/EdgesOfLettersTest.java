@@ -29,6 +29,7 @@ final class EdgesOfLettersTest {
         withoutPull();
         bestStatesInRise();
         leastPull();
+        leastPullAmongKeepers();
         leastPullNone();
         leastPullAtItsEnd();
         Due.end("EdgesOfLettersTest");
@@ -383,6 +384,32 @@ final class EdgesOfLettersTest {
         far.law(7, 0);
         // One that is 1 asks for more than 20, two and three for less.
         Due.is("the greatest of all", far.pull(), 21);
+    }
+
+    private static void leastPullAmongKeepers() {
+        Due.of("11: BEST STATES are those that WEIGH least, among those that keep all LAWS, too");
+        // Just one of three is 1: of 1, 2 and 4 the best has -5; beside it 3, 5 or 6 has -5, too, and misses by one.
+        int[][] own = {{-5, 0, 5}, {-5, 5, 0}, {0, -5, 5}, {5, -5, 0}, {0, 5, -5}, {5, 0, -5}};
+        for (int[] w : own) {
+            ColdGrid x = Pasts.of(3, w);
+            x.law(7, 1);
+            Due.is("own " + w[0] + ", " + w[1] + ", " + w[2] + ", pull()", x.pull(), 1);
+        }
+        // Keepers have -9 and -5, state 3 has -14; then keepers have 9 and 5, state 0 has 0.
+        int[][] six = {{-9, -5}, {-5, -9}, {9, 5}, {5, 9}};
+        for (int[] w : six) {
+            ColdGrid x = Pasts.of(2, w);
+            x.law(3, 1);
+            Due.is("own " + w[0] + ", " + w[1] + ", pull()", x.pull(), 6);
+        }
+        ColdGrid turned = Pasts.of(3, 5, -5, 0);
+        turned.turn(1);
+        turned.law(6, 1);
+        turned.law(1, 1);
+        // The constant is 5, letter 0 has -5: state 3 keeps both with -5, as has 7; states 1 and 5 have 0.
+        Due.is("with a constant", turned.pull(), 1);
+        turned.weigh(2, 2, -7);
+        Due.is("5 keeps both with -7, 7 has -12", turned.pull(), 6);
     }
 
     private static void leastPullNone() {
