@@ -13,6 +13,7 @@ final class EdgesOfFixingTest {
         ownOfFixedOnes();
         pairsWithFixedZeros();
         fromZeroOn();
+        goingOnToTheLast();
         againAndAgain();
         lawsAreNotLookedAt();
         ways();
@@ -105,6 +106,17 @@ final class EdgesOfFixingTest {
         x.weigh(7, 7, -5);
         x.weigh(6, 7, 5);
         fixedAs("the last two alike", x, 255, 64);
+    }
+
+    private static void goingOnToTheLast() {
+        Due.of("by going through them, from 0 on, again and again: each going goes on to the last LETTER");
+        ColdGrid x = Pasts.of(3, 5, 10, 0);
+        x.weigh(0, 1, -3);
+        x.weigh(0, 2, -5);
+        // Letter 1 is 0, by which 0 may be fixed; but 2 comes first, and is 1, as 0 is not fixed yet.
+        fixedAs("the next ahead of the first again", x, 7, 4);
+        x.weigh(0, 0, 8);
+        fixedAs("the first at once", x, 7, 0);
     }
 
     private static void againAndAgain() {

@@ -33,6 +33,7 @@ final class EdgesOfGridTest {
         strongOfEightLetters();
         strongOfFourteen();
         strongOfWhatIsNow();
+        strongWithoutBound();
         strongThatDoesNotStand();
         mostCells();
         asManyCells();
@@ -506,6 +507,27 @@ final class EdgesOfGridTest {
         y.chain(1, 0x2000);
         // Only with the last of the 14 cells at 1 a broken state has -60.
         Due.is("13 cells and one", y.strong(), 1);
+    }
+
+    private static void strongWithoutBound() {
+        Due.of("18: a HOLD h (0 ..), which has no greatest");
+        // Letter 0 lies on cells 5 to 9. Left of cell 7 three pairs and its own weight ask for 1, right of it four
+        // pairs, with letters that are 1 at best, for 0: unbroken it has -240 either way, broken -480 and the hold.
+        ColdGrid x = laid(8, 0b11111_00000, 1 << 0, 1 << 1, 1 << 10, 1 << 3, 1 << 4, 1 << 13, 1 << 14);
+        x.weigh(0, 0, -60);
+        for (int i = 1; i < 8; i++) {
+            x.weigh(i, i, i <= 3 ? 0 : -60);
+            x.weigh(0, i, i <= 3 ? -60 : 60);
+        }
+        Due.is("best(0)", x.best(0), -240);
+        Due.is("241", x.strong(), 241);
+        int[] steps = {17, 19, 20, 17, 18, 19, 20, 18};
+        int[] weights = {68, 76, 80, 85, 90, 95, 100, 108};
+        for (int k = 0; k < steps.length; k++) {
+            x.cut(steps[k]);
+            Due.is("weight(0, 7)", x.weight(0, 7), weights[k]);
+            Due.is("weights of " + weights[k], x.strong(), 4 * weights[k] + 1);
+        }
     }
 
     private static void strongThatDoesNotStand() {

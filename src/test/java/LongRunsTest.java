@@ -1,3 +1,8 @@
+import java.util.ArrayList;
+import java.util.List;
+import java.util.function.Supplier;
+import java.util.function.ToIntFunction;
+
 /** "An object is used for at most 512 calls": up to the last of them answers are due, however far numbers grow. */
 final class LongRunsTest {
     private static final int CALLS = 512;
@@ -7,6 +12,7 @@ final class LongRunsTest {
 
     public static void main(String[] args) {
         theLastCall();
+        eachCallToTheLast();
         lawsThatComeAndGo();
         lettersAgainAndAgain();
         constantThatGrows();
@@ -32,6 +38,69 @@ final class LongRunsTest {
         for (int call = 1; call <= CALLS; call++) {
             Due.is("kill, call " + call, cells.kill(19, call % 2 == 1), (call - 1) % 2);
         }
+    }
+
+    private static List<ToIntFunction<ColdGrid>> callsToRepeat() {
+        List<ToIntFunction<ColdGrid>> calls = new ArrayList<>();
+        calls.add(x -> x.letters(3));
+        calls.add(x -> x.weigh(0, 0, -10));
+        calls.add(x -> x.weight(0, 1));
+        calls.add(x -> x.energy(7));
+        calls.add(x -> x.law(7, 4));
+        calls.add(x -> x.best(9));
+        calls.add(x -> x.many(9));
+        calls.add(x -> x.bestAt(9, 0));
+        calls.add(ColdGrid::pull);
+        calls.add(x -> x.fixed(0));
+        calls.add(ColdGrid::floor);
+        calls.add(x -> x.kill(4, true));
+        calls.add(x -> x.chain(0, 1 << 0 | 1 << 1));
+        calls.add(ColdGrid::stands);
+        calls.add(x -> x.link(0, 1, 0));
+        calls.add(ColdGrid::strong);
+        calls.add(x -> x.readBack(7));
+        calls.add(x -> x.turn(0));
+        calls.add(x -> x.cut(1));
+        calls.add(x -> x.walk(0, 5, 100, 200, 0));
+        calls.add(x -> x.walk(0, 5, 100, 200, 1));
+        for (int what = 0; what <= 5; what++) {
+            int asked = what;
+            calls.add(x -> x.count(asked));
+        }
+        return calls;
+    }
+
+    private static void eachCallToTheLast() {
+        Due.of("at most 512 calls: each call answers alike up to the 512th");
+        List<ToIntFunction<ColdGrid>> calls = callsToRepeat();
+        for (int k = 0; k < calls.size(); k++) {
+            // Pasts.rich() makes 14 calls itself.
+            alikeToTheLast("number " + k + " of a new object", calls.get(k), ColdGrid::new, 0);
+            alikeToTheLast("number " + k, calls.get(k), Pasts::rich, 14);
+        }
+        ColdGrid laws = new ColdGrid();
+        for (int call = 1; call < CALLS; call += 2) {
+            Due.is("law(1, 1), call " + call, laws.law(1, 1), 0);
+            Due.is("unlaw(), call " + (call + 1), laws.unlaw(), 0);
+        }
+    }
+
+    // The first may still change something, so that each later one answers as the second does.
+    private static void alikeToTheLast(String what, ToIntFunction<ColdGrid> asked, Supplier<ColdGrid> past, int made) {
+        ColdGrid twin = past.get();
+        asked.applyAsInt(twin);
+        int due = asked.applyAsInt(twin);
+        ColdGrid again = past.get();
+        asked.applyAsInt(again);
+        ColdGrid last = past.get();
+        asked.applyAsInt(last);
+        for (int call = made + 2; call <= CALLS; call++) {
+            Due.is(what + ", call " + call, asked.applyAsInt(again), due);
+            if (call < CALLS) {
+                last.floor();
+            }
+        }
+        Due.is(what + ", call 512, after others", asked.applyAsInt(last), due);
     }
 
     private static void lawsThatComeAndGo() {

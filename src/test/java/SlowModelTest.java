@@ -187,6 +187,8 @@ final class SlowModelTest {
             kill(upTo(19), random.nextInt(3) > 0);
             layChains();
             weighTouching();
+            // What is asked of chains does not look at laws.
+            law(aState(), upTo(2));
             if (random.nextInt(4) == 0) {
                 turn(aState());
             }
