@@ -33,6 +33,7 @@ final class EdgesOfGridTest {
         strongOfEightLetters();
         strongOfFourteen();
         strongOfWhatIsNow();
+        strongOfSeveralBroken();
         strongWithoutBound();
         strongThatDoesNotStand();
         mostCells();
@@ -507,6 +508,33 @@ final class EdgesOfGridTest {
         y.chain(1, 0x2000);
         // Only with the last of the 14 cells at 1 a broken state has -60.
         Due.is("13 cells and one", y.strong(), 1);
+    }
+
+    private static void strongOfSeveralBroken() {
+        Due.of("18: no BROKEN CELL STATE, also of those in which several CHAINS are broken at once");
+        // Letter 0 is cell 7, the others are squares around it, which break at two neighbours each. Unbroken best is
+        // -120, with 1 and 2 alone. With 0 at 1 and all squares broken it is -240 and six holds, with any two of them
+        // broken -180 and four.
+        ColdGrid six = laid(4, 1 << 7, 0b00011_00011, 0b11000_11000, 0b00110_00110 << 10);
+        int[] own = {-60, -60, -60, 60};
+        int[] pairs = {0, 60, 60, -60};
+        for (int i = 0; i < 4; i++) {
+            six.weigh(i, i, own[i]);
+            six.weigh(0, i, i == 0 ? own[0] : pairs[i]);
+        }
+        Due.is("three squares, best(0)", six.best(0), -120);
+        Due.is("three squares at once", six.strong(), 21);
+        // Letter 2 of cells 7, 8 and 12 breaks at one neighbour, 0 and 1 at two each. Unbroken best is -120, with 1
+        // and 3 alone. With all three broken it is -240 and five holds, with 1 and 2 broken -180 and three.
+        ColdGrid five = laid(4, 0b111_00011_00000_00000, 0b00011_00011, 1 << 7 | 1 << 8 | 1 << 12, 1 << 9);
+        int[] owns = {60, -60, -60, -60};
+        int[] withTwo = {-60, 60, 0, 60};
+        for (int i = 0; i < 4; i++) {
+            five.weigh(i, i, owns[i]);
+            five.weigh(2, i, i == 2 ? owns[2] : withTwo[i]);
+        }
+        Due.is("three chains, best(0)", five.best(0), -120);
+        Due.is("three chains at once", five.strong(), 25);
     }
 
     private static void strongWithoutBound() {

@@ -384,6 +384,13 @@ final class EdgesOfLettersTest {
         far.law(7, 0);
         // One that is 1 asks for more than 20, two and three for less.
         Due.is("the greatest of all", far.pull(), 21);
+        ColdGrid farthest = Pasts.alike(8, -60);
+        for (int i = 0; i < 8; i++) {
+            farthest.weigh(i, i, 0);
+        }
+        farthest.law(255, 0);
+        // With m that are 1: m m p - 30 m (m - 1), so that all eight ask for more than 26, seven for less.
+        Due.is("the farthest from the law", farthest.pull(), 27);
     }
 
     private static void leastPullAmongKeepers() {
